@@ -49,6 +49,7 @@ public final class PromisesTest {
         lookSends();
         lookRows();
         lookAlikeMessagesAreOneStep();
+        lookWithoutRowsOnlyCounts();
         lookDoubles();
         looked();
         end();
@@ -385,6 +386,34 @@ public final class PromisesTest {
         due("alike: end", x.end(0, 1), 1);
     }
 
+    /** Whichever way 3, 1, 2 were sent, without ROWS the same VALUES are under way, and the least comes first. */
+    private static void lookWithoutRowsOnlyCounts() {
+        OrderTests x = withVertices(0, 0);
+        x.arc(0, 1, 0);
+        x.first(0, 3);
+        x.first(0, 1);
+        x.first(0, 2);
+        x.set(FOLD_KIND, LATER);
+        x.set(SENDS, 3);
+        // So many came at 0, any of them last, and so many of these at 1, any of them last:
+        // 1 for none, 3 * 1 * (1 + 1) for one, 3 * 2 * (1 + 2 + 2) for two, 3 * (1 + 3 + 6 + 3) for three.
+        due("counts: states", x.look(600), 1 + 6 + 30 + 39);
+        due("counts: ends", x.looked(1), 9);
+        due("counts: stepless", x.looked(2), 9);
+        due("counts: most", x.looked(3), 3);
+        int[] sources = {100, 101, 102, 0, 0, 0};
+        int[] values = {3, 1, 2, 1, 2, 3};
+        for (int i = 0; i < 6; i++) {
+            due("counts: step " + i, x.way(0, i, 0), sources[i]);
+            due("counts: value " + i, x.way(0, i, 1), values[i]);
+        }
+        // What an unfinished look left behind is not in the next one.
+        x.look(20);
+        due("counts: states again", x.look(600), 76);
+        due("counts: twenty are too few", x.shrink(20), NONE);
+        due("counts: by the orders at 0 alone", x.shrink(600), 0);
+    }
+
     private static void lookDoubles() {
         OrderTests x = withVertices(0);
         x.first(0, 1);
@@ -506,6 +535,7 @@ public final class PromisesTest {
         OrderTests x = race(1);
         refused("shrink: outside", OUTSIDE, x.shrink(0), x.shrink(-1), x.shrink(601), x.shrink(LOW), x.shrink(HIGH));
         due("shrink: no arc needed, none there", lastOfTwo().shrink(600), 0);
+        due("shrink: one state", lastOfTwo().shrink(1), NONE);
         due("shrink: no ends in two states", lastOfTwo().shrink(2), NONE);
         due("shrink: one end in four states", lastOfTwo().shrink(4), NONE);
         due("shrink: two ends in five states", lastOfTwo().shrink(5), 0);
