@@ -42,9 +42,9 @@ public final class OrderTests {
     public OrderTests() {
         graph = new Graph();
         rules = new Rules();
-        search = new Search(graph, rules);
         latest = new Findings();
         trial = new Findings();
+        search = new Search(graph, rules, trial);
     }
 
     public int vertex(int value) {
@@ -654,14 +654,16 @@ public final class OrderTests {
         /** The STATE that is gone through, and the one that a STEP makes of it. */
         private final State here = new State();
         private final State next = new State();
+        /** Where the look that goes on is noted; there is one from the start, so it is never null. */
         private Findings findings;
         private int limit;
         private int staying;
         private boolean isFull;
 
-        Search(Graph graph, Rules rules) {
+        Search(Graph graph, Rules rules, Findings findings) {
             this.graph = graph;
             this.rules = rules;
+            this.findings = findings;
         }
 
         /** On an ARC that does not stay nothing is sent, so it is as if it were not. */
