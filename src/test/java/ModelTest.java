@@ -10,6 +10,9 @@ import java.util.TreeSet;
 public final class ModelTest {
     private static final int RUNS = 800;
     private static final int CALLS = 120;
+    /** The document promises nothing of an object after so many calls. */
+    private static final int MOST_CALLS = 512;
+    private static final int READ_AFTER_A_LOOK = 40;
 
     private static long seed;
     private static int wrong = 0;
@@ -53,6 +56,7 @@ public final class ModelTest {
         Model model = new Model();
         List<String> told = new ArrayList<>();
         int style = any(4);
+        int left = MOST_CALLS - CALLS;
         for (int i = 0; i < CALLS && wrong == 0; i++) {
             int which = i < 14 ? any(4) : any(16);
             if (i == 14 && style > 0) {
@@ -67,16 +71,39 @@ public final class ModelTest {
                 System.out.println("run " + run + ": due is " + want + " at the last of " + told);
             }
             if (which == 10 && got > 0) {
-                readAll(run, real, model, told);
+                left -= readLook(run, real, model, told, Math.min(left, READ_AFTER_A_LOOK));
             }
             if (which == 14 && got >= 0) {
                 seen[5]++;
                 seen[6] += got > 0 ? 1 : 0;
             }
         }
+        readLook(run, real, model, told, left);
     }
 
-    private static void readAll(int run, OrderTests real, Model model, List<String> told) {
+    /** Asks at most so many things of the latest look, any of them if there are more, and tells how many. */
+    private static int readLook(int run, OrderTests real, Model model, List<String> told, int most) {
+        List<int[]> asked = questions(model);
+        int count = Math.min(most, asked.size());
+        for (int i = 0; i < count; i++) {
+            Collections.swap(asked, i, i + any(asked.size() - i));
+            int[] q = asked.get(i);
+            int[] a = {q[1], q[2], q[3]};
+            int got = call(real, q[0], a);
+            int want = model.call(q[0], a);
+            if (got != want) {
+                wrong++;
+                System.out.println("run " + run + ": " + Arrays.toString(q) + " answered " + got + ", due is " + want
+                    + " after " + told);
+                return i;
+            }
+            seen[4] += q[0] == 13 && q[3] == 2 && q[2] >= 0 && want == 1 ? 1 : 0;
+        }
+        countLook(model);
+        return count;
+    }
+
+    private static List<int[]> questions(Model model) {
         List<int[]> asked = new ArrayList<>();
         for (int what = 0; what < 4; what++) {
             asked.add(new int[] {11, what, 0, 0});
@@ -93,18 +120,11 @@ public final class ModelTest {
                 }
             }
         }
-        for (int[] q : asked) {
-            int[] a = {q[1], q[2], q[3]};
-            int got = call(real, q[0], a);
-            int want = model.call(q[0], a);
-            if (got != want) {
-                wrong++;
-                System.out.println("run " + run + ": " + Arrays.toString(q) + " answered " + got + ", due is " + want
-                    + " after " + told);
-                return;
-            }
-            seen[4] += q[0] == 13 && q[3] == 2 && q[2] >= 0 && want == 1 ? 1 : 0;
-        }
+        return asked;
+    }
+
+    private static void countLook(Model model) {
+        int ends = model.call(11, new int[] {1, 0, 0});
         boolean whole = model.call(11, new int[] {0, 0, 0}) == 1;
         seen[0] += whole ? 1 : 0;
         seen[1] += whole ? 0 : 1;

@@ -200,39 +200,41 @@ public final class PromisesTest {
     }
 
     private static void fold() {
+        for (int kind = 0; kind <= 9; kind++) {
+            for (int a = 0; a < 16; a++) {
+                foldOf(kind, a);
+            }
+        }
         OrderTests x = new OrderTests();
-        for (int a = 0; a < 16; a++) {
-            for (int b = 0; b < 16; b++) {
-                x.table(a, b, (3 * a + 5 * b + 1) % 16);
-            }
-        }
-        for (int a = 0; a < 16; a++) {
-            for (int b = 0; b < 16; b++) {
-                int[] dues = {(a + b) % 16, a < b ? a : b, a < b ? b : a, a ^ b, b, a, (2 * a + b) % 16, a & b, a | b,
-                    (3 * a + 5 * b + 1) % 16};
-                for (int kind = 0; kind < dues.length; kind++) {
-                    x.set(FOLD_KIND, kind);
-                    due("fold(" + a + ", " + b + ") by kind " + kind, x.fold(a, b), dues[kind]);
-                }
-            }
-        }
         refused("fold: outside", OUTSIDE, x.fold(-1, 0), x.fold(16, 0), x.fold(0, -1), x.fold(0, 16),
             x.fold(LOW, 0), x.fold(0, HIGH));
     }
 
-    private static void out() {
+    /** A new object for each, so that none is used for more than 512 calls. */
+    private static void foldOf(int kind, int a) {
         OrderTests x = new OrderTests();
-        for (int y = 0; y < 16; y++) {
-            for (int w = 0; w < 16; w++) {
-                int[] dues = {y, (y + w) % 16, y < w ? y : w, y < w ? w : y, y * w % 16};
-                for (int kind = 0; kind < dues.length; kind++) {
-                    x.set(OUT_KIND, kind);
+        x.set(FOLD_KIND, kind);
+        for (int b = 0; b < 16; b++) {
+            x.table(a, b, (3 * a + 5 * b + 1) % 16);
+            int[] dues = {(a + b) % 16, a < b ? a : b, a < b ? b : a, a ^ b, b, a, (2 * a + b) % 16, a & b, a | b,
+                (3 * a + 5 * b + 1) % 16};
+            due("fold(" + a + ", " + b + ") by kind " + kind, x.fold(a, b), dues[kind]);
+        }
+    }
+
+    private static void out() {
+        for (int kind = 0; kind <= 4; kind++) {
+            OrderTests x = new OrderTests();
+            x.set(OUT_KIND, kind);
+            for (int y = 0; y < 16; y++) {
+                for (int w = 0; w < 16; w++) {
+                    int[] dues = {y, (y + w) % 16, y < w ? y : w, y < w ? w : y, y * w % 16};
                     due("out(" + y + ", " + w + ") by kind " + kind, x.out(y, w), dues[kind]);
                 }
             }
+            refused("out: outside", OUTSIDE, x.out(-1, 0), x.out(16, 0), x.out(0, -1), x.out(0, 16),
+                x.out(LOW, 0), x.out(0, HIGH));
         }
-        refused("out: outside", OUTSIDE, x.out(-1, 0), x.out(16, 0), x.out(0, -1), x.out(0, 16),
-            x.out(LOW, 0), x.out(0, HIGH));
     }
 
     private static void law() {
@@ -378,7 +380,7 @@ public final class PromisesTest {
         x.set(SENDS, 2);
         x.set(FOLD_KIND, 2);
         x.set(ALWAYS, 1);
-        // FIRST ones that came: none, 0, 1, both; under way and at 1 already: of 0 none, of one 0 or 1, of both 0, 1, 2.
+        // FIRST ones that came: none, 0, 1, both; of what these sent, at 1 came 0; 0 or 1; 0 or 1; 0, 1 or 2.
         // At vertex 1 ALWAYS counts what it SENT, so all of these differ: 1 + 2 * 2 + 3.
         due("alike: states", x.look(600), 8);
         due("alike: ends", x.looked(1), 1);
