@@ -84,8 +84,9 @@ public final class FaceTest {
         for (Field f : OrderTests.class.getDeclaredFields()) {
             if (!Modifier.isPrivate(f.getModifiers())) {
                 boolean isConstant = f.getModifiers() == (Modifier.PUBLIC | Modifier.STATIC | Modifier.FINAL);
+                Integer dueHere = due.get(f.getName());
                 hold(f.getName() + " is a constant of the document",
-                    isConstant && f.getType() == int.class && Integer.valueOf(f.getInt(null)).equals(due.get(f.getName())));
+                    isConstant && f.getType() == int.class && dueHere != null && f.getInt(null) == dueHere);
             }
         }
         hold("all four are there", OrderTests.NONE + OrderTests.UNKNOWN + OrderTests.OUTSIDE + OrderTests.ROOM == -308);
@@ -93,8 +94,8 @@ public final class FaceTest {
 
     private static void text() throws IOException {
         String text = Files.readString(Path.of(SOURCE)).replaceAll("(?s)/\\*.*?\\*/", "").replaceAll("//[^\n]*", "");
-        for (String word : new String[] {"throw", "throws", "try", "catch", "synchronized", "assert", "package", "native",
-            "volatile", "transient", "hashCode", "toString", "var"}) {
+        for (String word : new String[] {"throw", "throws", "try", "catch", "synchronized", "assert", "package",
+            "native", "volatile", "transient", "hashCode", "toString", "var"}) {
             hold("no " + word, !Pattern.compile("\\b" + word + "\\b").matcher(text).find());
         }
         hold("no lambda and no method reference", !text.contains("->") && !text.contains("::"));

@@ -48,6 +48,7 @@ public final class LookBoundsTest {
         stateTellsWhichArc();
         stateTellsHowOften();
         stateTellsTheOrderWithRows();
+        stateTellsTheOrderOfMany();
         stepsOfFirstsThenArcs();
         stepsOfRowsAreTheFirst();
         stepsOfTheLeastFirst();
@@ -66,6 +67,7 @@ public final class LookBoundsTest {
         lookOfSixHundred();
         lookOfMore();
         lookIsMadeAnew();
+        lookAfterOneNotWhole();
         endsAreDifferentRows();
         endsOfStatesFound();
         endsNumberedAsFound();
@@ -289,6 +291,25 @@ public final class LookBoundsTest {
         // One: 3 * 2. Two, either last: 3 * 2 * (1 + 2 + 2). All, any last: 3 * (1 + 3 + 3 * 2 + 3).
         due("STATES without ROWS", x.look(600), 1 + 6 + 30 + 39);
         due("ENDS without ROWS", x.looked(1), 9);
+    }
+
+    /** Most of these STATES differ from some others by their rows alone. */
+    private static void stateTellsTheOrderOfMany() {
+        says("2: with ROWS in their order (of four)");
+        OrderTests x = withVertices(0, 0);
+        x.arc(0, 1, 0);
+        for (int v = 1; v <= 4; v++) {
+            x.first(0, v);
+        }
+        x.set(FOLD_KIND, LATER);
+        x.set(SENDS, 4);
+        x.set(ROWS, 1);
+        // As for three: of m that came at 0 in some order, j came at 1. The order is told apart but for those before
+        // the last of the j. None: 1. One: 4 + 4. Two: 12 + 12 + 12. Three: 24 + 24 + 24 + 24 / 2.
+        // All: 24 + 24 + 24 + 24 / 2 + 24 / 6.
+        due("STATES", x.look(600), 1 + 8 + 36 + 84 + 88);
+        due("WHOLE", x.looked(0), 1);
+        dueEnds(x, 1, 4, 3, 2, 1);
     }
 
     // ---- STEPS
@@ -551,10 +572,9 @@ public final class LookBoundsTest {
         }
     }
 
-    /** VERTEX 0 has 0, 1, .. by its loop, and sends each on. */
-    private static void sixteenDifferentInARow() {
-        says("2: is under way (with ROWS as the last one)");
-        OrderTests x = withVertices(15, 5, 0);
+    /** VERTEX 0 has 0, 1, .. by its loop, and sends each of the sixteen on: as many STATES as of sixteen alike. */
+    private static OrderTests sixteenInTurn() {
+        OrderTests x = withVertices(15, 5);
         x.arc(0, 0, 1);
         x.arc(0, 1, 0);
         x.first(0, 0);
@@ -562,6 +582,12 @@ public final class LookBoundsTest {
         x.set(OUT_KIND, SUM_OUT);
         x.set(SENDS, 16);
         x.set(ROWS, 1);
+        return x;
+    }
+
+    private static void sixteenDifferentInARow() {
+        says("2: is under way (with ROWS as the last one)");
+        OrderTests x = sixteenInTurn();
         due("STATES", x.look(600), 170);
         dueEnds(x, 0, 0);
         dueEnds(x, 1, 15);
@@ -670,6 +696,20 @@ public final class LookBoundsTest {
         x.set(FOLD_KIND, EARLIER);
         due("VERTEX 3 keeps what it has", x.look(600), 20 * 6 * 4);
         dueEnds(x, 3, 0);
+    }
+
+    /** A look that ends early leaves messages under way; the next one begins with none, also where 16 follow. */
+    private static void lookAfterOneNotWhole() {
+        says("2: THE BEGINNING: nothing under way (after a look that was not WHOLE)");
+        for (int n = 1; n < 170; n += 7) {
+            OrderTests x = sixteenInTurn();
+            due("look(" + n + ")", x.look(n), n);
+            due("look(600) after it", x.look(600), 170);
+            due("WHOLE", x.looked(0), 1);
+            dueEnds(x, 1, 15);
+            due("shrink(" + n + ")", x.shrink(n), NONE);
+            due("look(600) after shrink(" + n + ")", x.look(600), 170);
+        }
     }
 
     // ---- ENDS and WAYS, promises 13 to 15
