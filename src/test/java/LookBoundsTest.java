@@ -84,6 +84,7 @@ public final class LookBoundsTest {
         shrinkNumbers();
         shrinkFindsTwo();
         shrinkUpToN();
+        shrinkUpToNWithout();
         shrinkOfNoArcs();
         shrinkPowersOfTwo();
         shrinkOneAfterTheOther();
@@ -1008,6 +1009,14 @@ public final class LookBoundsTest {
         three.look(600);
         due("three ENDS", three.looked(1), 3);
         due("three ENDS", three.shrink(600), 0);
+        three.arc(0, 0, 0);
+        due("three ENDS, and as many without the ARC", three.shrink(600), 0);
+        // 1, and 2 by one doubled, are the ENDS of the first four of six STATES.
+        OrderTests early = withVertices(0);
+        early.first(0, 1);
+        early.set(DOUBLES, 2);
+        due("two ENDS, not WHOLE", early.shrink(4), 0);
+        due("one END, not WHOLE", early.shrink(3), NONE);
         OrderTests one = lastOfTwo();
         one.set(FOLD_KIND, GREATER);
         due("one END, WHOLE", one.shrink(600), NONE);
@@ -1048,6 +1057,44 @@ public final class LookBoundsTest {
         z.set(FOLD_KIND, LATER);
         due("ten, without it", z.shrink(10), 1 + 2);
         due("nine, without it", z.shrink(9), NONE);
+    }
+
+    /**
+     * VERTEX 1 goes round between 6 and 7 by its loop after 3 came, until it has sent 16 times; 1, which 0 sends over
+     * ARC 0, makes it stop at 5. VERTEX 2 has 12 or 13 at last, whichever came later.
+     */
+    private static OrderTests roundAndRound(boolean canStop) {
+        OrderTests x = withVertices(0, 2, 0);
+        if (canStop) {
+            x.arc(0, 1, 0);
+        }
+        x.arc(1, 1, 0);
+        x.first(0, 1);
+        x.first(1, 3);
+        x.first(2, 12);
+        x.first(2, 13);
+        x.set(FOLD_KIND, BY_TABLE);
+        x.set(SENDS, 16);
+        int[][] cells = {{0, 1, 1}, {2, 3, 6}, {6, 6, 7}, {7, 7, 6}, {2, 1, 5}, {6, 1, 5}, {7, 1, 5}, {5, 3, 5},
+            {5, 5, 5}, {5, 6, 5}, {5, 7, 5}, {0, 12, 12}, {0, 13, 13}, {12, 13, 13}, {13, 12, 12}};
+        for (int[] c : cells) {
+            x.table(c[0], c[1], c[2]);
+        }
+        return x;
+    }
+
+    private static void shrinkUpToNWithout() {
+        says("16: if without it LOOKING up to n finds two or more still");
+        OrderTests x = roundAndRound(true);
+        x.look(150);
+        due("two ENDS by 150 STATES, for it can stop", x.looked(1), 2);
+        // Without ARC 0: 0 has 0 or 1, 1 is at one of 1 + 1 + 16 places, 2 at one of 5, and the ENDS are the last two.
+        OrderTests y = roundAndRound(false);
+        due("STATES without ARC 0", y.look(600), 2 * 18 * 5);
+        due("its ENDS", y.looked(1), 2);
+        due("its second END is the last STATE", y.shrink(179), NONE);
+        due("without ARC 0 there are not two by 150, without ARC 1 there are", x.shrink(150), 1);
+        due("without ARC 0 there are two by 180, and without ARC 1 too", x.shrink(180), 0);
     }
 
     private static void shrinkOfNoArcs() {
