@@ -1,4 +1,6 @@
 import java.io.IOException;
+import java.lang.management.ManagementFactory;
+import java.lang.management.ThreadMXBean;
 import java.lang.reflect.Array;
 import java.lang.reflect.Constructor;
 import java.lang.reflect.Field;
@@ -34,6 +36,7 @@ public final class FaceTest {
         constants();
         text();
         room();
+        callsMakeNothing();
         System.out.println(wrong == 0 ? "all is as due" : wrong + " things are not as due");
         if (wrong != 0) {
             System.exit(1);
@@ -109,6 +112,17 @@ public final class FaceTest {
     private static void room() throws IllegalAccessException {
         OrderTests x = new OrderTests();
         long[] before = size(x);
+        fill(x);
+        x.look(600);
+        x.shrink(600);
+        long[] after = size(x);
+        hold("calls make nothing that stays: " + after[0] + " objects", before[0] == after[0]);
+        hold("calls make nothing that stays: " + after[1] + " elements", before[1] == after[1]);
+        hold("few objects: " + after[0], after[0] < 40);
+        hold("some 12,200 elements, as README.md says: " + after[1], after[1] > 12150 && after[1] < 12250);
+    }
+
+    private static void fill(OrderTests x) {
         for (int i = 0; i < 5; i++) {
             x.vertex(i);
         }
@@ -120,13 +134,43 @@ public final class FaceTest {
         }
         x.set(3, 16);
         x.set(5, 2);
-        x.look(600);
-        x.shrink(600);
-        long[] after = size(x);
-        hold("calls make nothing that stays: " + after[0] + " objects", before[0] == after[0]);
-        hold("calls make nothing that stays: " + after[1] + " elements", before[1] == after[1]);
-        hold("few objects: " + after[0], after[0] < 40);
-        hold("few elements: " + after[1], after[1] < 14000);
+    }
+
+    /** All calls live in one room, so what one makes counts even if it does not stay. */
+    private static void callsMakeNothing() {
+        ThreadMXBean threads = ManagementFactory.getThreadMXBean();
+        if (!(threads instanceof com.sun.management.ThreadMXBean)) {
+            return;
+        }
+        com.sun.management.ThreadMXBean counting = (com.sun.management.ThreadMXBean) threads;
+        OrderTests x = new OrderTests();
+        long me = Thread.currentThread().getId();
+        counting.getThreadAllocatedBytes(me);
+        long before = counting.getThreadAllocatedBytes(me);
+        fill(x);
+        for (int i = 0; i < 16; i++) {
+            everyCall(x, i);
+        }
+        long made = counting.getThreadAllocatedBytes(me) - before;
+        hold("some 250 calls make nothing: " + made + " bytes", made < 16 * 15);
+    }
+
+    private static void everyCall(OrderTests x, int i) {
+        x.vertex(i);
+        x.arc(0, 1, i);
+        x.first(0, i);
+        x.set(0, i);
+        x.table(i, i, i);
+        x.value(0, i);
+        x.fold(i, i);
+        x.out(i, i);
+        x.law(i);
+        x.about(i);
+        x.look(40 * i);
+        x.looked(i);
+        x.end(0, i);
+        x.way(0, i, 0);
+        x.shrink(40 * i);
     }
 
     private static long[] size(Object root) throws IllegalAccessException {
